@@ -222,6 +222,8 @@ public final class TermsTest {
                 + "quietest(2) = NONE; quietest(3) = NONE; meet(0, 1, 0) = 0");
         doc.says(words, ROW + "ask(1, 2, 0, 1, 1, 1, 1); ask(0, 1, 0, 1, 1, 1, 1); give(0) = 1; give(1) = 1; "
                 + "meet(0, 1, 0) = 0; meet(1, 0, 0) = 0; meet(0, 1, 1) = 1");
+        doc.says(words, "ask(0, 3, 0, 3, 3, 1, 1); ask(0, 3, 1, 4, 3, 1, 1); give(0) = 3; give(1) = 4; where(1, 2) = 1; "
+                + "where(0, 2) = 2; meet(0, 1, 0) = 0; meet(1, 0, 0) = 0; meet(1, 0, 1) = 1");
         doc.says(words, "air(2, 2) = 4; ask(0, 1, 0, 1, 1, 1, 1) = 0; give(0) = 1; "
                 + "ask(1, 3, 0, 1, 1, 1, 1) = 1; soonest(1) = 1; ask(2, 0, 0, 1, 1, 1, 1) = 2; soonest(2) = 1; "
                 + "ask(1, 0, 2, 3, 1, 1, 1) = 3; soonest(3) = 3; ask(3, 2, 0, 1, 1, 1, 1) = 4; soonest(4) = 1");
@@ -345,7 +347,9 @@ public final class TermsTest {
                 + "silent(0, 0, 3) = 1; could(1) = 2; could(2) = 6", "air(3, 2) = 6; shut(1, 0, 0); shut(3, 0, 0); "
                 + "silent(0, 0, 1) = 1; could(1) = 3", "air(3, 2) = 6; shut(1, 1, 1); silent(0, 0, 2) = 1; "
                 + "couldBe(1, 1) = 0; couldBe(4, 1) = 1; couldBe(2, 1) = 0; silent(0, 0, 3) = 1; couldBe(5, 1) = 1; "
-                + "couldBe(2, 1) = 0");
+                + "couldBe(2, 1) = 0", "air(2, 2) = 4; rule(0, 0) = 1; folk(1, 0, 59); folk(2, 0, 59); open(1, 1) = 0; "
+                + "silent(0, 0, 1) = 1; could(1) = 3; could(2) = 4; ask(3, 1, 0, 1, 1, 1, 1); rule(0, 1) = 0; give(0) = 1; "
+                + "could(1) = 3; could(2) = 4");
         doc.says("(where it stays it may be SHUT).", "shut(5, 0, 59); silent(5, 0, 0) = 1; couldBe(5, 59) = 1; "
                 + "silent(5, 0, 1) = 1; couldBe(5, 1) = 1; could(1) = 5; couldBe(5, 2) = 1; silent(4, 0, 1) = 1; "
                 + "couldBe(5, 59) = 0; could(59) = 15", "shut(6, 1, 59); silent(5, 0, 1) = 1; couldBe(6, 59) = 0",
