@@ -108,7 +108,25 @@ public final class LanguageTest {
             C.yes("made in a field or a constructor: " + made.group(), before.contains("final ")
                     || before.matches("(?s).*(town|book|roofs|sky|hush|barring|plan|stray|asks\\[n\\]) = $"));
         }
+        library(code);
         methodLengths(text);
+    }
+
+    /** Every name with a great and a small letter is a class of the file or one of the library's few that it uses. */
+    private static void library(String code) {
+        TreeSet<String> known = new TreeSet<>(List.of("Math", "Integer", "Long"));
+        Matcher own = Pattern.compile("\\bclass (\\w+)").matcher(code);
+        while (own.find()) {
+            known.add(own.group(1));
+        }
+        Matcher name = Pattern.compile("\\b[A-Z]\\w*[a-z]\\w*").matcher(code);
+        while (name.find()) {
+            C.yes("a class of the file or of the list: " + name.group(), known.contains(name.group()));
+        }
+        Matcher used = Pattern.compile("\\b(Math|Integer|Long)\\.(\\w+)").matcher(code);
+        while (used.find()) {
+            C.yes("in the list: " + used.group(), List.of("max", "min", "abs", "bitCount").contains(used.group(2)));
+        }
     }
 
     private static void methodLengths(String text) {
